@@ -487,8 +487,10 @@ public final class PaperHears {
 
         int get(int row, int column) {
             int at = row * width + column;
-            boolean told = column >= 0 && column < width && at >= 0 && at < cells.length;
-            return told ? cells[at] : 0;
+            if (column >= 0 && column < width && at >= 0 && at < cells.length) {
+                return cells[at];
+            }
+            return 0;
         }
 
         void set(int row, int column, int number) {

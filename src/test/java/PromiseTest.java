@@ -470,6 +470,40 @@ public final class PromiseTest {
         due("undo() behind a told one", x.undo(), 4);
         due("count(5)", x.count(5), 1);
         refused("undo", x, 2, 5, 0);
+        undoOfThree();
+    }
+
+    private static void undoOfThree() {
+        PaperHears x = told("house;say 0 1 9;say 0 2 9;say 0 3 9;ear 0 1;ear 0 2;ear 0 3;strip 0;strip 3;minutes 2;strip 1;");
+        due("minutes(1)", x.minutes(1), 2);
+        x.strips(2);
+        x.minutes(1);
+        x.goes(0, 0);
+        x.goes(1, 0);
+        x.goes(2, 0);
+        x.papers(0);
+        x.papers(1);
+        due("count(8)", x.count(8), 8);
+        for (int k = 0; k < 5; k++) {
+            x.undo();
+        }
+        for (int r = 0; r < 4; r++) {
+            due("room(" + r + ", 0)", x.room(r, 0), new int[] {4, 2, 1, 4}[r]);
+        }
+        for (int i = 0; i < 3; i++) {
+            due("about(" + i + ", 1)", x.about(i, 1), i + 1);
+            due("about(" + i + ", 2)", x.about(i, 2), 1 << i);
+        }
+        x.undo();
+        due("about(1, 2)", x.about(1, 2), 0);
+        due("about(0, 2)", x.about(0, 2), 1);
+        x.undo();
+        due("room(2, 0)", x.room(2, 0), -1);
+        due("undo() of the minute", x.undo(), 2);
+        due("about(0, 2)", x.about(0, 2), 0);
+        due("about(2, 2)", x.about(2, 2), 4);
+        due("room(1, 0)", x.room(1, 0), 0);
+        due("room(3, 0)", x.room(3, 0), 2);
     }
 
     private static void of() {
@@ -502,6 +536,10 @@ public final class PromiseTest {
         due("about(1, 3)", x.about(1, 3), 1);
         x.minutes(22);
         due("about(1, 3), silent", x.about(1, 3), 0);
+        PaperHears y = told("house;say 5 2 9;say 4 2 1;ear 0 2;strip 2;");
+        due("about(0, 3): the door over the other", y.about(0, 3), 1);
+        y.minutes(1);
+        due("about(0, 3): neither", y.about(0, 3), 0);
         due("about(0, -1)", x.about(0, -1), -2);
         due("about(0, 4)", x.about(0, 4), -2);
         due("about(2, 0)", x.about(2, 0), -2);
@@ -640,6 +678,10 @@ public final class PromiseTest {
         due("stay(0, 0, 0, 4)", x.stay(0, 0, 0, 4), -2);
         due("stay(0, 0, 0, -2)", x.stay(0, 0, 0, -2), -2);
         refused("stay", x, 8, 0, 0);
+        x.house();
+        read(x, "house;say 0 3 9;ear 0 0;");
+        due("stay(0, 1, 0, 3)", x.stay(0, 1, 0, 3), 1);
+        due("stay(0, 1, 0, 2)", x.stay(0, 1, 0, 2), -1);
         stayLong();
     }
 
@@ -733,6 +775,11 @@ public final class PromiseTest {
         due("said(0, 3)", x.said(0, 3), -2);
         due("said(0, -1)", x.said(0, -1), -2);
         refused("said", x, 4, 0, 0);
+        x = told("house;say 0 3 5;say 0 3 5;say 0 3 9;");
+        x.told(3, 0, 5);
+        due("said(3, 0): the one or the other", x.said(3, 0), 2);
+        due("said(3, 1)", x.said(3, 1), 0);
+        due("said(3, 2)", x.said(3, 2), 3);
         x = told("house;say 0 0 1;say 0 0 1;say 0 0 1;say 0 0 1;say 0 0 1;say 0 0 1;say 0 0 1;say 0 0 1;");
         due("said(0, 0)", x.said(0, 0), 256);
         due("said(0, 2)", x.said(0, 2), 255);
@@ -902,6 +949,9 @@ public final class PromiseTest {
         due("brothers(-1): both to where 3 are heard", x.brothers(-1), 1);
         due("brothers(0)", x.brothers(0), 22);
         due("brothers(1)", x.brothers(1), -5);
+        read(x, "house;say 0 0 5;say 0 0 5;say 0 0 5;ear 0 1;ear 0 2;strip 0;");
+        due("brothers(-1): both to the first room", x.brothers(-1), 1);
+        due("brothers(0)", x.brothers(0), 0);
         read(x, "house;say 0 2 5;ear 0 0;ear 1 0;strip 2;");
         due("brothers(-1): one is as good as none elsewhere", x.brothers(-1), 7);
         due("brothers(0)", x.brothers(0), 2);
@@ -943,7 +993,7 @@ public final class PromiseTest {
         due("holds(0, 0, -1)", x.holds(0, 0, -1), -2);
         refused("holds", x, 6, 0, 0);
         x = told("house;say 0 0 3;say 0 0 9;say 0 0 9;say 0 0 9;say 0 0 9;say 0 0 9;say 0 0 9;say 0 0 9;ear 0 0;strip 0;");
-        // 3 are heard beside 11 at most: one other, and all eight held or said apart
+        // 3 are heard beside 11 at most, so beside one other of 9: 9 by 10 times 1 and 63 by 10000000
         holds(x, 0, 0, 1, 576, 100000000);
     }
 
@@ -984,6 +1034,10 @@ public final class PromiseTest {
         x.strips(0);
         x.minutes(1);
         due("jobs(7, 0): what is known now", x.jobs(7, 0), 1);
+        read(x, "house;say 4 0 9;say 0 0 1;say 4 1 9;say 0 1 1;say 4 2 9;say 0 2 1;say 4 3 9;say 0 3 1;ear 0 0;ear 0 0;ear 0 0;");
+        for (int seed = 0; seed < 5; seed++) {
+            due("jobs(" + seed + ", 1): the low one only a minute on", x.jobs(seed, 1), 1);
+        }
         read(x, "house;say 0 0 9;say 0 1 9;say 0 2 9;say 0 3 9;ear 0 0;");
         for (int seed = 20; seed < 30; seed++) {
             due("jobs(" + seed + ", 3), one listener", x.jobs(seed, 3), roomsHeard(seed, 3, 1));
