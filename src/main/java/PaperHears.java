@@ -801,6 +801,8 @@ public final class PaperHears {
     /** Where and how long to listen. */
     private static final class Plans {
         private static final int FARTHEST = 40;
+        /** No minute that is only thought of comes near this one. */
+        private static final int BEYOND = 1000000;
         private static final long TIMES = 1103515245L;
         private static final long MORE = 12345L;
         private static final long OVER = 2147483648L;
@@ -927,7 +929,7 @@ public final class PaperHears {
                         h.strip(r);
                     }
                 }
-                h.passMinutes(1, Integer.MAX_VALUE);
+                h.passMinutes(1, BEYOND);
             }
         }
     }

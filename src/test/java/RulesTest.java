@@ -54,7 +54,7 @@ public final class RulesTest {
     private static void words(String code) {
         String[] forbidden = {"\\bthrow\\b", "\\bthrows\\b", "\\btry\\b", "\\bcatch\\b", "\\bsynchronized\\b",
             "\\bassert\\b", "\\bimport\\b", "\\bpackage\\b", "\\bprotected\\b", "\\bvolatile\\b", "\\bnative\\b",
-            "->", "::", "@", "\\bequals\\b", "\\bhashCode\\b", "\\btoString\\b", "\\bvar\\b", "Exact\\b",
+            "->", "::", "@", "\\bequals\\b", "\\bM(AX|IN)_VALUE\\b", "\\bhashCode\\b", "\\btoString\\b", "\\bvar\\b", "Exact\\b",
             "\\bSystem\\b", "\\bfloat\\b", "\\bdouble\\b", "\\bObject\\b", "\"\" *\\+", "\\+ *\"\"",
             "while \\(true\\)", "for \\(;;\\)"};
         for (String word : forbidden) {
