@@ -75,6 +75,18 @@ public final class AnswerBoundaryTest extends Sentences {
         due("first(0, 0) too late", x.first(0, 0), NONE);
     }
 
+    static void termsFirstIsNowIfItIsHeardAllTheTime() {
+        by(TERMS, "FIRST: in how many MINUTES (0 .. 40), nobody going, nothing stripped, papered");
+        PaperHears x = told("house;say 0 2 9;say 0 1 9;ear 0 2;ear 0 0;strip 2;");
+        for (int m = 0; m < 30; m++) {
+            due("first(0, 0) at " + m, x.first(0, 0), 0);
+            due("first(0, 1), in a room not gone to, not stripped", x.first(0, 1), NONE);
+            due("first(1, 0), who does not go there", x.first(1, 0), NONE);
+            x.minutes(1);
+        }
+        due("first(0, 0) at 30", x.first(0, 0), NONE);
+    }
+
     static void termsFirstOfWhatIsNeverHeard() {
         by(TERMS, "a LISTENER HEARS a SAYING first; none");
         PaperHears x = told("house;say 0 0 9;say 0 1 9;say 0 0 1;say 0 3 9;ear 1 0;");
