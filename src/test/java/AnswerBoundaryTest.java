@@ -152,6 +152,20 @@ public final class AnswerBoundaryTest extends Sentences {
         due("stay(0, 2, 1, 0), but not the other way", z.stay(0, 2, 1, 0), NONE);
     }
 
+    static void termsStayIsAsIfStrippedNow() {
+        by(TERMS, "were he in a ROOM, STRIPPED now, all that time");
+        PaperHears x = told("house;say 4 1 9;say 0 2 9;ear 0 3;ear 0 1;strip 1;minutes 1;");
+        due("stay(0, 1, 0, 1), it speaks, but not of that", x.stay(0, 1, 0, 1), 1);
+        due("stay(0, 2, 0, 2), it does not speak", x.stay(0, 2, 0, 2), 1);
+        due("stay(0, 2, 0, 1), he does not go on", x.stay(0, 2, 0, 1), NONE);
+        x.minutes(28);
+        due("stay(0, 1, 0, -1), it is in its last minute", x.stay(0, 1, 0, -1), 101);
+        x.minutes(1);
+        due("stay(0, 1, 0, -1), it is silent", x.stay(0, 1, 0, -1), 101);
+        due("room(1, 0), silent still", x.room(1, 0), NONE);
+        due("about(0, 1), there still", x.about(0, 1), 3);
+    }
+
     static void termsStayIsInTheFirstOfLikeRooms() {
         by(TERMS, "the best ROOM is that with the fewest MINUTES, of like ones the first; none");
         PaperHears x = eightAndThree();
@@ -190,6 +204,19 @@ public final class AnswerBoundaryTest extends Sentences {
         due("about(2, 2)", x.about(2, 2), 1);
         due("stand(1, 0)", x.stand(1, 0), 2);
         due("stand(1, 1)", x.stand(1, 1), 12);
+    }
+
+    static void termsStandIsAsIfAllWereStrippedNow() {
+        by(TERMS, "all ROOMS STRIPPED now");
+        PaperHears x = told("house;say 4 1 9;say 0 2 9;ear 0 3;ear 0 3;strip 1;minutes 1;");
+        due("stand(1, 0), one speaks, but not of that", x.stand(1, 0), 2);
+        due("stand(1, 1), one speaks, but not of that", x.stand(1, 1), 12);
+        x.minutes(28);
+        due("stand(1, 0), one is in its last minute", x.stand(1, 0), 2);
+        x.minutes(1);
+        due("stand(1, 0), none speaks", x.stand(1, 0), 2);
+        due("count(3)", x.count(3), 1);
+        due("room(1, 0), silent still", x.room(1, 0), NONE);
     }
 
     static void termsStandCountsWhatIsKnownNow() {
@@ -974,6 +1001,41 @@ public final class AnswerBoundaryTest extends Sentences {
         due("note(0, 1, 0, 21)", y.note(0, 1, 0, 21), BAD);
         due("mark(0, 0, 0, 2)", y.mark(0, 0, 0, 2), BAD);
         refused("BAD ahead of FULL", y, 6, 0, full);
+    }
+
+    static void termsOtherAnswersCountAsRefusals() {
+        by(TERMS, "(where others are told they count as these)");
+        PaperHears x = new PaperHears();
+        due("brothers(-2)", x.brothers(-2), -10);
+        refused("brothers(-2)", x, 1, 0, 0);
+        due("brothers(-1)", x.brothers(-1), -3);
+        refused("brothers(-1)", x, 1, 1, 0);
+        due("status(3)", x.status(3), -1);
+        refused("status(3)", x, 2, 1, 0);
+    }
+
+    static void termsQuestionsChangeNothing() {
+        by(TERMS, "(Nothing is changed by these;");
+        PaperHears x = told("house;say 4 1 9;say 0 2 9;ear 0 1;ear 0 3;strip 1;");
+        x.minutes(1);
+        long before = x.digest();
+        x.loud(0, 29);
+        x.first(0, 0);
+        x.stay(0, 3, 0, NONE);
+        x.stay(1, 2, 1, 2);
+        x.stand(30, 0);
+        x.said(1, 0);
+        x.is(0);
+        x.look(0);
+        x.kinds(0);
+        x.ask(0);
+        x.brothers(NONE);
+        x.jobs(999999, 60);
+        due("digest()", x.digest(), before);
+        due("about(0, 3)", x.about(0, 3), 0);
+        refused("questions", x, 0, 0, 0);
+        due("undo()", x.undo(), 0);
+        due("undo()", x.undo(), NO);
     }
 
     static void documentLastCallIsAnsweredToo() {

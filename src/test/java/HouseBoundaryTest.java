@@ -506,6 +506,7 @@ public final class HouseBoundaryTest extends Sentences {
         fault("house;ninutes 1;", 6);
         fault("house;strip 0;minute 1;", 14);
         fault("house;strip zero;", 12);
+        fault("house;say door 0 1;", 10);
         fault("house;strip strip 0;", 12);
         fault("house;strip 0 a;", 14);
     }
